@@ -20,6 +20,9 @@ public final class TermLodgings {
     private static final int LEAST_BYTE = 32;
     private static final int GREATEST_BYTE = 126;
 
+    private static final int BITS = 32;
+    private static final int LEAST_INT = 0x80000000;
+
     /** about() tells WISH k as what = FIRST_WISH + k. */
     private static final int FIRST_WISH = 10;
 
@@ -35,14 +38,15 @@ public final class TermLodgings {
     private final Prices prices;
 
     public TermLodgings() {
-        rooms = new Rooms();
-        people = new People();
-        statute = new Statute();
-        town = new Town(rooms, people, statute);
+        Town made = new Town();
+        town = made;
+        rooms = made.rooms;
+        people = made.people;
+        statute = made.statute;
         turns = new Turns();
-        dealing = new Dealing(town);
-        trading = new Trading(town);
-        moving = new Moving(town);
+        dealing = new Dealing(made);
+        trading = new Trading(made);
+        moving = new Moving(made);
         nights = new Nights();
         prices = new Prices();
     }
@@ -310,7 +314,7 @@ public final class TermLodgings {
     public int matter() {
         if (prices.tellings == 0) {
             // NOT itself could be a true difference here
-            return Integer.MIN_VALUE;
+            return LEAST_INT;
         }
         int difference = 0;
         for (int night = 0; night < nights.passed; night++) {
@@ -375,7 +379,16 @@ public final class TermLodgings {
     }
 
     private static boolean inBits(int bits, int number) {
-        return number >= 0 && number < Integer.SIZE && (bits >>> number & 1) == 1;
+        return number >= 0 && number < BITS && (bits >>> number & 1) == 1;
+    }
+
+    private static int leastIn(int bits) {
+        for (int number = 0; number < BITS; number++) {
+            if (inBits(bits, number)) {
+                return number;
+            }
+        }
+        return NONE;
     }
 
     private static final class Rooms {
@@ -649,17 +662,11 @@ public final class TermLodgings {
 
     /** Who lives where, and who MAY. */
     private static final class Town {
-        final Rooms rooms;
-        final People people;
-        final Statute statute;
+        final Rooms rooms = new Rooms();
+        final People people = new People();
+        final Statute statute = new Statute();
         /** The ROOMS that each one MAY have, as bits: as they were when weighed last. */
         private final int[] choice = new int[MOST_PEOPLE];
-
-        Town(Rooms rooms, People people, Statute statute) {
-            this.rooms = rooms;
-            this.people = people;
-            this.statute = statute;
-        }
 
         /** Whether a person MAY live in a ROOM. */
         boolean suits(int person, int room) {
@@ -689,7 +696,7 @@ public final class TermLodgings {
             return choiceOf(person) & ~rooms.taken;
         }
 
-        /** The ROOM must be one that nobody has; NONE changes nothing. */
+        /** NONE changes nothing. */
         void settle(int person, int room) {
             if (people.has(person) && rooms.has(room)) {
                 people.lodging[person] = room;
@@ -799,12 +806,12 @@ public final class TermLodgings {
             int left = offered;
             for (int p = 0; p < people.many; p++) {
                 if (inBits(friends, p)) {
-                    int open = left & town.openTo(p);
-                    if (open == 0) {
+                    int room = leastIn(left & town.openTo(p));
+                    if (room == NONE) {
                         return false;
                     }
-                    picks[p] = Integer.numberOfTrailingZeros(open);
-                    left &= ~(1 << picks[p]);
+                    picks[p] = room;
+                    left &= ~(1 << room);
                 }
             }
             return true;
@@ -952,12 +959,7 @@ public final class TermLodgings {
             for (int p = 0; p < people.many; p++) {
                 if (inBits(traders, p)) {
                     moved += people.lodgingOf(p) != gets[p] ? 1 : 0;
-                    town.leave(p);
-                }
-            }
-            // only now, as a ROOM is left by one before another one gets it
-            for (int p = 0; p < people.many; p++) {
-                if (inBits(traders, p)) {
+                    // nobody need leave first: each ROOM that is left is another trader's now
                     town.settle(p, gets[p]);
                 }
             }

@@ -16,6 +16,7 @@ public final class BallotsTest {
         traded();
         strike();
         strikeMovesAsManyAsCanBe();
+        strikeMovesNoMoreThanCanBe();
         strikeMovesTheFirstToTheLeast();
         strikeAtTheLimits();
         license();
@@ -334,6 +335,20 @@ public final class BallotsTest {
         Due.enact(x, "h=0|y=1|y=2&s<3|y=3&s=1");
         Due.due("20 a chain: strike(0)", x.strike(0), 0);
         Due.lodgings("20 a chain", x, 5, 4, 3);
+    }
+
+    private static void strikeMovesNoMoreThanCanBe() {
+        // 0 may go anywhere, but 1 and 2 want the same ROOM: a second change of 0's ROOM helps nobody
+        TermLodgings x = Due.town(0, 1, 2, 3, 0, 0, 0);
+        x.person(1, NONE);
+        x.person(2, NONE);
+        x.person(2, NONE);
+        for (int p = 0; p < 3; p++) {
+            x.give(p, 3 + p);
+        }
+        Due.enact(x, "h=0|y=1|h=1");
+        Due.due("20 two for one room: strike(0)", x.strike(0), 1);
+        Due.lodgings("20 two for one room", x, 1, 0, NONE);
     }
 
     private static void strikeMovesTheFirstToTheLeast() {
