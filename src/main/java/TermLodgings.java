@@ -693,7 +693,7 @@ public final class TermLodgings {
 
         /** The ROOMS that nobody has and that one MAY have. */
         int openTo(int person) {
-            return choiceOf(person) & ~rooms.taken;
+            return people.has(person) ? choice[person] & ~rooms.taken : 0;
         }
 
         /** NONE changes nothing. */
@@ -1005,7 +1005,7 @@ public final class TermLodgings {
         private void emptyHouse(int house) {
             movers = 0;
             for (int p = 0; p < people.many; p++) {
-                if (rooms.houseOf(people.lodgingOf(p)) == house) {
+                if (movers < MOST_PEOPLE && rooms.houseOf(people.lodgingOf(p)) == house) {
                     mover[movers] = p;
                     movers++;
                     town.leave(p);
@@ -1058,8 +1058,9 @@ public final class TermLodgings {
             int askers = 1;
             asking[0] = m;
             for (int i = 0; i < askers && i < MOST_PEOPLE; i++) {
+                int open = choiceOf(asking[i]);
                 for (int room = 0; room < rooms.many; room++) {
-                    if (inBits(choice[asking[i]] & ~seen, room)) {
+                    if (inBits(open & ~seen, room)) {
                         seen |= 1 << room;
                         askedBy[room] = asking[i];
                         if (inside[room] == NONE) {
@@ -1075,11 +1076,18 @@ public final class TermLodgings {
             return NONE;
         }
 
+        private int choiceOf(int m) {
+            return m >= 0 && m < movers ? choice[m] : 0;
+        }
+
         /** Each of the chain gets the ROOM that it asked for. */
         private void changeAlong(int last) {
             int room = last;
             for (int i = 0; i < MOST_PEOPLE && rooms.has(room); i++) {
                 int asker = askedBy[room];
+                if (asker < 0 || asker >= movers) {
+                    return;
+                }
                 int before = place[asker];
                 inside[room] = asker;
                 place[asker] = room;

@@ -23,13 +23,6 @@ public final class BallotsTest {
         Due.finish();
     }
 
-    private static void turnsAre(String call, TermLodgings x, int... due) {
-        for (int i = 0; i < due.length; i++) {
-            Due.due(call + ": turn(" + i + ")", x.turn(i), due[i]);
-        }
-        Due.due(call + ": turn(" + due.length + ")", x.turn(due.length), BAD);
-    }
-
     /** The document's drawing, worked out with longs. */
     private static int[] drawn(int people, int seed) {
         int[] row = new int[people];
@@ -55,7 +48,7 @@ public final class BallotsTest {
             for (int seed : seeds) {
                 int[] due = drawn(people, seed);
                 Due.due("14 draw(" + seed + ")", x.draw(seed), due[0]);
-                turnsAre("14 draw(" + seed + ")", x, due);
+                Due.turns("14 draw(" + seed + ")", x, due);
             }
         }
     }
@@ -66,24 +59,24 @@ public final class BallotsTest {
         Due.due("15 change(0, -1)", x.change(0, -1), BAD);
         Due.due("15 change(3, 0)", x.change(3, 0), BAD);
         Due.due("15 change(0, 3)", x.change(0, 3), BAD);
-        turnsAre("15 refused", x, 0, 1, 2);
+        Due.turns("15 refused", x, 0, 1, 2);
         Due.due("15 change(0, 2)", x.change(0, 2), 1);
-        turnsAre("15 change(0, 2)", x, 2, 1, 0);
+        Due.turns("15 change(0, 2)", x, 2, 1, 0);
         Due.due("15 change(1, 1)", x.change(1, 1), 1);
         Due.due("15 change(1, 0)", x.change(1, 0), 1);
-        turnsAre("15 change(1, 0)", x, 1, 2, 0);
+        Due.turns("15 change(1, 0)", x, 1, 2, 0);
     }
 
     private static void turn() {
         TermLodgings x = Due.town(0, 0);
-        turnsAre("16 nobody", x);
+        Due.turns("16 nobody", x);
         Due.due("16 turn(-1)", x.turn(-1), BAD);
         x.person(1, NONE);
         x.person(1, NONE);
-        turnsAre("16 as numbered", x, 0, 1);
+        Due.turns("16 as numbered", x, 0, 1);
         x.change(0, 1);
         x.person(1, NONE);
-        turnsAre("16 one more", x, 1, 0, 2);
+        Due.turns("16 one more", x, 1, 0, 2);
         Due.due("16 turn(-1)", x.turn(-1), BAD);
     }
 
