@@ -345,6 +345,26 @@ public final class BallotsEdgesTest {
         Due.lodgings("17 no HOUSE", x, 1, 2, 0);
     }
 
+    static void dealToThoseAwayToo() {
+        TermLodgings x = Due.town(2, 0, 0);
+        x.away(0, true);
+        x.wish(0, 1);
+        x.wish(1, 1);
+        Due.due("17 0 is AWAY: deal()", x.deal(), 1);
+        Due.lodgings("17 0 is AWAY", x, 1, NONE);
+    }
+
+    static void dealKeepsWishesAndTurns() {
+        TermLodgings x = Due.town(3, 0, 0);
+        Due.wishes(x, 0, 1, 0);
+        Due.wishes(x, 1, 0, 1);
+        x.change(0, 2);
+        Due.due("17 deal()", x.deal(), 2);
+        Due.due("17 once more: deal()", x.deal(), 2);
+        Due.lodgings("17 once more", x, 1, 0, NONE);
+        Due.turns("17 once more", x, 2, 1, 0);
+    }
+
     // ---- 18 trade, 19 traded
 
     static void tradeOfNobody() {
@@ -513,6 +533,31 @@ public final class BallotsEdgesTest {
         Due.lodgings("18 the next WISH", x, 0, 2, 1);
     }
 
+    static void tradeOfThoseAwayAndOfFriends() {
+        int[] rooms = {0, 1, 2};
+        TermLodgings x = groups(rooms, 3, 3, NONE);
+        for (int p = 0; p < 3; p++) {
+            x.give(p, p);
+        }
+        x.away(0, true);
+        x.wish(0, 2);
+        x.wish(2, 0);
+        Due.due("18 0 is AWAY, 1 a friend: trade()", x.trade(), 2);
+        Due.lodgings("18 0 is AWAY, 1 a friend", x, 2, 1, 0);
+    }
+
+    static void tradeDoesNotAskForTurns() {
+        for (int seed = 0; seed < 5; seed++) {
+            TermLodgings x = housed(3, 0, 0, 0);
+            Due.wishes(x, 0, 1);
+            Due.wishes(x, 1, 2, 0);
+            Due.wishes(x, 2, 1);
+            x.draw(seed);
+            Due.due("18 draw(" + seed + "): trade()", x.trade(), 2);
+            Due.lodgings("18 draw(" + seed + ")", x, 0, 2, 1);
+        }
+    }
+
     // ---- 20 strike
 
     static void strikeTheFirstAndTheLastHouse() {
@@ -649,6 +694,18 @@ public final class BallotsEdgesTest {
         Due.due("20 AWAY: strike(0)", x.strike(0), 0);
         Due.lodgings("20 AWAY", x, 1);
         Due.due("20 AWAY still: about(0, 4)", x.about(0, 4), 1);
+    }
+
+    static void strikeDoesNotAskForWishesTurnsOrFriends() {
+        int[] rooms = {0, 0, 1, 2, 3};
+        TermLodgings x = groups(rooms, 5, 5);
+        x.give(0, 0);
+        x.give(1, 1);
+        Due.wishes(x, 0, 4, 3);
+        Due.wishes(x, 1, 4);
+        x.change(0, 1);
+        Due.due("20 WISHES, TURNS, a GROUP: strike(0)", x.strike(0), 0);
+        Due.lodgings("20 WISHES, TURNS, a GROUP", x, 2, 3);
     }
 
     // ---- 21 license

@@ -36,30 +36,44 @@ public final class FaceTest {
     }
 
     private static void face() {
+        same("class", TermLodgings.class.toGenericString(), "public final class TermLodgings");
+        same("class above", TermLodgings.class.getSuperclass().getName(), "java.lang.Object");
+        same("interfaces", Arrays.toString(TermLodgings.class.getInterfaces()), "[]");
+        Constructor<?>[] constructors = TermLodgings.class.getDeclaredConstructors();
+        Due.due("how many constructors", constructors.length, 1);
+        same("constructor", constructors[0].toGenericString(), "public TermLodgings()");
+        fields();
+        methods();
+    }
+
+    private static void fields() {
+        TreeSet<String> found = new TreeSet<>();
+        for (Field field : TermLodgings.class.getDeclaredFields()) {
+            if (!Modifier.isPrivate(field.getModifiers())) {
+                found.add(field.toGenericString().replace("TermLodgings.", ""));
+            }
+        }
+        same("fields", found.toString(), "[public static final int BAD, public static final int FULL, "
+            + "public static final int NONE, public static final int NOT]");
+    }
+
+    private static void methods() {
         TreeSet<String> found = new TreeSet<>();
         for (Method method : TermLodgings.class.getDeclaredMethods()) {
             if (!Modifier.isPrivate(method.getModifiers())) {
-                List<String> takes = new ArrayList<>();
-                for (Class<?> type : method.getParameterTypes()) {
-                    takes.add(type.getName());
-                }
-                found.add(method.getName() + "(" + String.join(",", takes) + ")" + method.getReturnType().getName());
+                same(method.getName() + "'s modifiers", Modifier.toString(method.getModifiers()), "public");
+                found.add(method.getName() + takes(method) + method.getReturnType().getName());
             }
         }
-        TreeSet<String> due = new TreeSet<>(Arrays.asList(FACE.split(" ")));
-        same("methods", found.toString(), due.toString());
-        TreeSet<String> fields = new TreeSet<>();
-        for (Field field : TermLodgings.class.getDeclaredFields()) {
-            if (!Modifier.isPrivate(field.getModifiers())) {
-                fields.add(Modifier.toString(field.getModifiers()) + " " + field.getName());
-            }
+        same("methods", found.toString(), new TreeSet<>(Arrays.asList(FACE.split(" "))).toString());
+    }
+
+    private static String takes(Method method) {
+        List<String> types = new ArrayList<>();
+        for (Class<?> type : method.getParameterTypes()) {
+            types.add(type.getName());
         }
-        same("fields", fields.toString(), "[public static final BAD, public static final FULL, "
-            + "public static final NONE, public static final NOT]");
-        same("class", Modifier.toString(TermLodgings.class.getModifiers()), "public final");
-        Constructor<?>[] constructors = TermLodgings.class.getDeclaredConstructors();
-        Due.due("how many constructors", constructors.length, 1);
-        same("constructor", constructors[0].toString(), "public TermLodgings()");
+        return "(" + String.join(",", types) + ")";
     }
 
     private static void same(String what, String found, String due) {

@@ -118,6 +118,29 @@ public final class NightsEdgesTest {
         Due.due("23 nobody: pass(1)", x.pass(1), FULL);
     }
 
+    static void passOfOneWhoMayNotLiveThere() {
+        TermLodgings x = housed(1);
+        x.price(0, 0, 5);
+        Due.enact(x, "y=9");
+        Due.due("23 wrong()", x.wrong(), 1);
+        x.pass(2);
+        Due.due("23 KEPT all the same: about(0, 5)", x.about(0, 5), 2);
+        Due.due("23 had all the same: had(0, 1)", x.had(0, 1), 0);
+        Due.due("23 billed all the same: bill(0)", x.bill(0), 10);
+    }
+
+    static void passKeepsWhatWasKeptBefore() {
+        TermLodgings x = Due.town(1, 0, 1);
+        x.give(0, 0);
+        x.pass(2);
+        x.give(0, 1);
+        x.pass(3);
+        Due.due("23 in two ROOMS: about(0, 5)", x.about(0, 5), 5);
+        x.give(0, NONE);
+        x.pass(4);
+        Due.due("23 then in none: about(0, 5)", x.about(0, 5), 5);
+    }
+
     // ---- 24 price
 
     static void priceOfTheLeast() {

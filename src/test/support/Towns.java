@@ -16,7 +16,7 @@ enum Towns {
         return x;
     }
 
-    /** Somebody is AWAY, somebody MAY not live where they do, somebody has no ROOM; HOUSE 5 is STRUCK. */
+    /** One is AWAY, one MAY not live where they do, one has no ROOM, two would trade; HOUSE 5 is STRUCK. */
     private static void fillSome(TermLodgings x) {
         int[][] rooms = {{0, 3, 1}, {0, 5, 2}, {1, 9, 0}, {2, 1, 1}, {2, 20, 3}, {3, 0, 0}, {5, 7, 2}, {7, 12, 1}};
         for (int[] room : rooms) {
@@ -43,6 +43,8 @@ enum Towns {
         x.away(2, true);
         x.price(0, 3, 25);
         x.pass(3);
+        Due.wishes(x, 1, 0, 1, 4);
+        Due.wishes(x, 2, 1);
         x.change(0, 4);
         Due.typeAll(x, "y>2|m<3|h=0");
     }
