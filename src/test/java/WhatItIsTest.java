@@ -99,7 +99,10 @@ public final class WhatItIsTest {
             if (friends(p) == 1) {
                 gotTheDearestLeft(p, lodgings);
             } else if (served.add(group[p])) {
-                liveUnderOneRoofOrAsWished(p, lodgings);
+                boolean together = areUnderAWishedRoof(p, lodgings);
+                holds("GROUP " + group[p] + " is under one roof or has WISHES", together || haveWishes(p, lodgings));
+                // all ROOMS are free in the first turn
+                holds("GROUP " + group[p] + " is under one roof if it can be", together || i > 0 || !fitsSomewhere(p));
             }
         }
     }
@@ -121,25 +124,60 @@ public final class WhatItIsTest {
         }
     }
 
-    private void liveUnderOneRoofOrAsWished(int first, int[] lodgings) {
-        boolean together = lodgings[first] != NONE && isWishedHouse(first, house[lodgings[first]]);
-        boolean asWished = true;
-        for (int p = 0; p < group.length; p++) {
-            if (group[p] == group[first]) {
-                together = together && lodgings[p] != NONE && house[lodgings[p]] == house[lodgings[first]];
-                asWished = asWished && rank(p, lodgings[p]) != 99;
-            }
-        }
-        holds("GROUP " + group[first] + " is under one roof or has WISHES", together || asWished);
+    private boolean areFriends(int p, int other) {
+        return group[p] == group[other];
     }
 
-    private boolean isWishedHouse(int p, int roof) {
-        for (int room : wishes[p]) {
-            if (house[room] == roof) {
+    private boolean areUnderAWishedRoof(int first, int[] lodgings) {
+        for (int wish : wishes[first]) {
+            boolean together = true;
+            for (int p = 0; p < group.length; p++) {
+                together = together && (!areFriends(p, first) || isIn(lodgings[p], house[wish]));
+            }
+            if (together) {
                 return true;
             }
         }
         return false;
+    }
+
+    private boolean haveWishes(int first, int[] lodgings) {
+        boolean all = true;
+        for (int p = 0; p < group.length; p++) {
+            all = all && (!areFriends(p, first) || rank(p, lodgings[p]) != 99);
+        }
+        return all;
+    }
+
+    /** Whether some HOUSE of one's WISHES, while nobody has a ROOM, takes all of the GROUP, each the least left. */
+    private boolean fitsSomewhere(int first) {
+        for (int wish : wishes[first]) {
+            int left = 0;
+            for (int room = 0; room < house.length; room++) {
+                left |= isIn(room, house[wish]) ? 1 << room : 0;
+            }
+            boolean fits = true;
+            for (int p = 0; p < group.length && fits; p++) {
+                if (areFriends(p, first)) {
+                    int taken = leastFor(p, left);
+                    fits = taken != NONE;
+                    left &= ~(fits ? 1 << taken : 0);
+                }
+            }
+            if (fits) {
+                return true;
+            }
+        }
+        return false;
+    }
+
+    private int leastFor(int p, int left) {
+        for (int room = 0; room < house.length; room++) {
+            if ((left >> room & 1) == 1 && x.may(p, room) == 1) {
+                return room;
+            }
+        }
+        return NONE;
     }
 
     // ---- trades in rings that hurt nobody
@@ -170,11 +208,11 @@ public final class WhatItIsTest {
     // ---- licences struck and those within moved, as many as can be
 
     private void thoseWithinAreMovedAsManyAsCanBe() {
+        int struck = random.nextInt(4);
         for (int p = 0; p < group.length; p++) {
-            x.give(p, random.nextInt(house.length));
+            x.give(p, mostlyIn(struck));
         }
         enactAny();
-        int struck = random.nextInt(4);
         int[] before = lodgings();
         int lost = 0;
         for (int p = 0; p < group.length; p++) {
@@ -184,10 +222,21 @@ public final class WhatItIsTest {
         Due.due(name + ": strike(" + struck + ")", x.strike(struck), lost - most);
         ownersAgree("STRUCK");
         int[] after = lodgings();
+        int moved = 0;
         for (int p = 0; p < group.length; p++) {
             holds(p + " is in no STRUCK HOUSE", !isIn(after[p], struck));
             holds(p + " stays, or was within", before[p] == after[p] || isIn(before[p], struck));
+            moved += isIn(before[p], struck) && after[p] != NONE ? 1 : 0;
         }
+        Due.due(name + ": how many are moved", moved, most);
+    }
+
+    private int mostlyIn(int roof) {
+        int room = random.nextInt(house.length);
+        for (int again = 0; again < 9 && !isIn(room, roof); again++) {
+            room = random.nextInt(house.length);
+        }
+        return room;
     }
 
     private boolean isIn(int room, int roof) {
